@@ -1033,7 +1033,7 @@ public final class BalancedLine {
             int dueSet = fixedIn[due];
             int open = whole & ~done & ~(fixed & ~dueSet);
             // Each set falls below the one ahead of it, down to the empty one.
-            for (int set = open; set > 0; set = set - 1 & open) {
+            for (int set = open; set > 0; set = (set - 1) & open) {
                 if ((needs[set] & ~done) == 0) {
                     int put = set & dueSet;
                     int station = put == 0 ? next : due;
@@ -1075,7 +1075,7 @@ public final class BalancedLine {
                 return;
             }
             // As in stepFrom, each set falls below the one ahead of it.
-            for (int set = then; set > 0; set = set - 1 & then) {
+            for (int set = then; set > 0; set = (set - 1) & then) {
                 int done = then & ~set;
                 if (levels[done] == station - 1 && (needs[set] & ~done) == 0) {
                     traceStep(done, set, station);
