@@ -397,7 +397,6 @@ public final class ModelTest {
         final Random random;
         final BalancedLine x = new BalancedLine();
         final Model m = new Model();
-        final StringBuilder log = new StringBuilder();
 
         Run(long seed, int most, int length) {
             this.seed = seed;
@@ -411,7 +410,6 @@ public final class ModelTest {
 
         void due(String call, int got, int want) {
             calls++;
-            log.append(call).append(" -> ").append(got).append('\n');
             if (got != want) {
                 wrong++;
                 System.out.println("seed " + seed + ": " + call + " answered " + got + ", due is " + want);
@@ -639,7 +637,7 @@ public final class ModelTest {
                     break;
                 }
                 case 3:
-                    askLists(small);
+                    askLists();
                     break;
                 case 4:
                     int k = any(0, 20) == 0 ? any(-1, 14) : any(1, 5);
@@ -668,7 +666,7 @@ public final class ModelTest {
             due("count(10)", x.count(10), best == null ? NONE : best.k * m.cycle - m.total());
         }
 
-        void askLists(boolean small) {
+        void askLists() {
             List<Integer> loads = m.loads(false), full = m.loads(true);
             for (int i = -2; i <= Math.min(loads.size(), 70); i++) {
                 due("load(" + i + ")", x.load(i), m.listed(loads, i));

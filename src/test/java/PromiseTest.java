@@ -35,6 +35,9 @@ public final class PromiseTest {
         binds();
         count();
         takenOff();
+        twelveTasks();
+        textOfTwoHundred();
+        laidSmaller();
         wholeRangeOfInt();
         System.out.println(wrong == 0 ? "PromiseTest: " + calls + " answers are as due" : wrong + " answers are not as due");
         if (wrong != 0) {
@@ -794,6 +797,107 @@ public final class PromiseTest {
         due("off by joined: one that is in no pair", x.where(0), 1);
         x.zone(1, 2, 0);
         due("a pair less takes none off", x.count(5), 2);
+    }
+
+    /** The most tasks there can be, put in the last station. */
+    static void twelveTasks() {
+        BalancedLine x = laid("c12;t1;t1;t1;t1;t1;t1;t1;t1;t1;t1;t1;t1;pkl;pal;xbl;jcl;");
+        due("12: orders", x.count(2), 2);
+        due("12: apart", x.count(3), 1);
+        due("12: joined", x.count(4), 1);
+        due("12: behind", x.task(10, 2), 2048);
+        due("12: all behind", x.task(10, 3), 2048);
+        due("12: behind the last", x.task(11, 2), 0);
+        due("12: ahead", x.task(11, 1), 1 + 1024);
+        due("12: halves", x.floor(1), 0);
+        due("12: chains", x.floor(2), 1);
+        due("12: fewest", x.fewest(), 2);
+        due("12: adopt", x.adopt(), 2);
+        due("12: the last", x.where(11), 2);
+        due("12: the one apart goes first, as it is told first", x.where(1), 1);
+        due("12: put", x.count(5), 12);
+        due("12: used", x.count(6), 2);
+        due("12: left of the cycle", x.count(11), 12);
+        for (int t = 0; t < 12; t++) {
+            x.off(t);
+        }
+        due("12: off", x.count(5), 0);
+        due("12: why", x.why(11, 12), 0);
+        due("12: put last", x.put(11, 12), 1);
+        due("12: left", x.left(), 12);
+        due("12: used last", x.count(6), 1);
+        due("12: joined elsewhere", x.why(2, 11), 5);
+        due("12: time", x.time(11, 2), 1);
+        due("12: times", x.station(12, 1), 2);
+        due("12: were", x.were(11, 60), NONE);
+        due("12: by", x.by(13), 2);
+        due("12: shortest", x.shortest(2), 7);
+        due("12: binds", x.binds(-1), 0);
+        due("12: order", x.order(11, 0, 1), NO);
+        due("12: may", x.may(11), 6);
+        int row = 0;
+        BalancedLine y = laid("c60;t1;t1;t1;t1;t1;t1;t1;t1;t1;t1;t1;t1;");
+        for (int a = 0; a < 12; a++) {
+            for (int b = a + 1; b < 12; b++) {
+                row++;
+                due("12: all orders", y.order(a, b, 1), row);
+            }
+        }
+        due("12: the first goes first", y.load(-1), 12);
+        due("12: no more orders", y.order(11, 0, 1), NO);
+        due("12: one station", y.fewest(), 1);
+        due("12: none binds", y.binds(-1), 0);
+        due("12: all behind the first", y.task(0, 3), 4094);
+        y.zone(0, 11, 1);
+        due("12: the ends apart", y.fewest(), 2);
+        due("12: eleven ways", y.many(), 11);
+    }
+
+    static void textOfTwoHundred() {
+        BalancedLine x = new BalancedLine();
+        StringBuilder text = new StringBuilder("c99;");
+        for (int i = 0; i < 12; i++) {
+            text.append("t10;");
+        }
+        for (int k = 1; k < 12 && text.length() < 200; k++) {
+            for (int a = 0; a + k < 12 && text.length() < 200; a++) {
+                text.append('p').append((char) ('a' + a)).append((char) ('a' + a + k)).append(';');
+            }
+        }
+        type(x, text.toString());
+        due("200: as long", x.count(9), 200);
+        due("200: no fault", x.fault(), NONE);
+        due("200: laid", x.lay(), 12);
+        due("200: orders", x.count(2), 37);
+        type(x, text.substring(0, 199) + "c");
+        due("200: the last item has no end", x.fault(), 196);
+        due("200: not laid", x.lay(), NO);
+        type(x, "c".repeat(200));
+        due("200: no end at all", x.fault(), 0);
+        type(x, ";".repeat(200));
+        due("200: ends alone", x.fault(), 0);
+    }
+
+    /** What was found out of more tasks leaves no trace among fewer. */
+    static void laidSmaller() {
+        BalancedLine x = laid("c5;t5;t5;t5;t5;t5;t5;t5;t5;t5;t5;t5;t5;pab;xcd;jef;");
+        x.cycle(10);
+        due("more: no two apart, two joined", x.fewest(), 6);
+        due("more: binds", x.binds(-1), 0);
+        due("more: left", x.left(), 6);
+        type(x, "c5;t5;t5;t5;");
+        due("fewer: laid", x.lay(), 3);
+        due("fewer: fewest", x.fewest(), 3);
+        due("fewer: many", x.many(), 6);
+        for (int t = 0; t < 3; t++) {
+            due("fewer: best of " + t, x.best(t), t + 1);
+            due("fewer: may of " + t, x.may(t), 14);
+        }
+        due("fewer: loads", x.load(-1), 3);
+        due("fewer: full", x.full(-1), 3);
+        due("fewer: no pairs", x.count(2) + x.count(3) + x.count(4), 0);
+        due("fewer: times", x.count(7), 15);
+        due("fewer: shortest", x.shortest(2), 10);
     }
 
     /** No number, however far off, is more than BAD, NO or NONE. */
