@@ -540,6 +540,25 @@ public final class EdgeBestTest {
         }
     }
 
+    /** A is put far behind: left() is 11, and what is asked behind it is told as if nothing were put. */
+    static BalancedLine putFarBehind() {
+        BalancedLine x = Edges.laid("c10;t6;t6;t4;t4;pab;pbc;pbd;");
+        x.put(0, 9);
+        due("fewest", x.fewest(), 3);
+        due("left", x.left(), 11);
+        return x;
+    }
+
+    static void promise26_whatIsPutIsNoMatter() {
+        int[] want = {20, 12, 8, 6};
+        for (int k = 1; k <= 4; k++) {
+            due("shortest of " + k, putFarBehind().shortest(k), want[k - 1]);
+        }
+        BalancedLine x = putFarBehind();
+        x.shortest(2);
+        due("left again", x.left(), 11);
+    }
+
     static void promise26_askingLeavesAll() {
         Edges.refused("shortest(0)", x -> x.shortest(0), BAD);
         Edges.refused("shortest(1)", x -> x.shortest(1), NONE);
@@ -580,6 +599,15 @@ public final class EdgeBestTest {
         due("whatever cycle", Edges.laid("c9;t1;t1;t1;jab;jbc;xac;").by(120), NONE);
         x.cycle(1);
         due("a line by another cycle", x.by(20), 4);
+    }
+
+    static void promise27_whatIsPutIsNoMatter() {
+        due("as told", putFarBehind().by(10), 3);
+        due("all in one", putFarBehind().by(20), 1);
+        BalancedLine x = putFarBehind();
+        due("too short for one that is put", x.by(5), NONE);
+        due("it stays put", x.where(0), 9);
+        due("left again", x.left(), 11);
     }
 
     static void promise27_askingLeavesAll() {
@@ -624,6 +652,15 @@ public final class EdgeBestTest {
         due("just the cycle", x.were(1, 10), 2);
         due("both in one", x.were(1, 5), 1);
         due("another task is no help", x.were(0, 1), NONE);
+    }
+
+    static void promise28_whatIsPutIsNoMatter() {
+        due("as told", putFarBehind().were(0, 6), 3);
+        due("shorter", putFarBehind().were(0, 4), 2);
+        BalancedLine x = putFarBehind();
+        due("too long where it is put", x.were(0, 11), NONE);
+        due("it stays put", x.where(0), 9);
+        due("left again", x.left(), 11);
     }
 
     static void promise28_askingLeavesAll() {
@@ -692,6 +729,13 @@ public final class EdgeBestTest {
     static void promise29_eachAlone() {
         bindsAre("c10;t6;t6;t4;t4;pab;pbc;pbd;pac;", 1, 102, 103);
         bindsAre("c18;t9;t1;t1;t9;pab;pbd;pac;pcd;jad;");
+    }
+
+    static void promise29_whatIsPutIsNoMatter() {
+        BalancedLine x = putFarBehind();
+        due("how many", x.binds(-1), 3);
+        due("the last", x.binds(2), 103);
+        due("left again", x.left(), 11);
     }
 
     static void promise29_askingLeavesAll() {

@@ -508,6 +508,17 @@ public final class EdgeToldTest {
         due("lay again", x.lay(), 2);
     }
 
+    static void promise05_nothingIsPutWhateverWasAskedAhead() {
+        for (Edges.Call asked : new Edges.Call[] {x -> x.by(20), x -> x.were(0, 5), x -> x.shortest(2), x -> x.binds(-1),
+            x -> x.left(), x -> x.fault()}) {
+            BalancedLine x = Edges.busy();
+            asked.on(x);
+            due("lay", x.lay(), 2);
+            due("put", x.count(5), 0);
+            due("left", x.left(), 1);
+        }
+    }
+
     static void promise05_layingCannotBeUndone() {
         BalancedLine x = Edges.busy();
         x.lay();
