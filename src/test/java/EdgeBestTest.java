@@ -77,7 +77,11 @@ public final class EdgeBestTest {
         due("ahead, not behind", Edges.laid("c10;t5;t6;t6;pab;pac;").floor(2), 2);
         due("both ahead", Edges.laid("c10;t5;t6;t6;pba;pca;").floor(2), 2);
         due("both ahead, one more", Edges.laid("c10;t9;t6;t6;pba;pca;").floor(2), 3);
+        due("by a", Edges.laid("c10;t5;t5;t5;pba;pac;").floor(2), 2);
+        due("by c", Edges.laid("c10;t5;t5;t5;pac;pcb;").floor(2), 2);
         due("all in a row", Edges.laid(Edges.alike(1, 12, 60) + Edges.chain(12)).floor(2), 720);
+        due("all in a row, the other way", Edges.laid(Edges.alike(1, 12, 60)
+            + "plk;pkj;pji;pih;phg;pgf;pfe;ped;pdc;pcb;pba;").floor(2), 720);
         due("the least", Edges.laid("c120;t1;").floor(2), 1);
     }
 
